@@ -46,8 +46,7 @@ public final class QuakeLink {
         0xEDB88320, 0xF00F9344, 0xD6D6A3E8, 0xCB61B38C, 0x9B64C2B0, 0x86D3D2D4, 0xA00AE278, 0xBDBDF21C
     };
 
-    private static final int PAGE_BITS = 10;
-    private static final int PAGE = 1 << PAGE_BITS;
+    private static final int PAGE = 1024;
 
     private final Station station = new Station();
     private final Air slots = new Air();
@@ -318,9 +317,9 @@ public final class QuakeLink {
             return (int) number(at, 4);
         }
 
+        /** Only for a message of the same size. */
         void copy(Message other) {
             System.arraycopy(other.row, 0, row, 0, other.size);
-            size = other.size;
         }
 
         void seal() {

@@ -48,7 +48,9 @@ public final class AirTest {
             Checks.due("6: slot", Slots.sent(x, 0, k, k), k);
         }
         Checks.due("11: 64 slots", x.length(0), 25);
+        refusesSlot(x, 64);
         Checks.due("6: slot 64", Slots.sent(x, 1, 7), 64);
+        refusesSlot(x, 65);
         refusesSlot(x, 0);
         Checks.due("11: the oldest of 64", x.length(1), 25);
         Checks.due("11: the latest of 64", x.length(64), 24);

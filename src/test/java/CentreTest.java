@@ -258,8 +258,13 @@ public final class CentreTest {
         QuakeLink x = new QuakeLink();
         x.samples(0, 122, 0, 0, 1 << 30);
         x.turn();
-        for (int i = 20; i < 504; i++) {
-            x.spoil(0, i, x.air(0, i));
+        // Its eight blocks have the code 9 and the differences 0, in the first one alone, and 1 << 30.
+        String sent = ("9" + "00000000" + "40000000".repeat(14)) + ("9" + "40000000".repeat(15)).repeat(7);
+        for (int i = 0; i < 484; i++) {
+            int mask = Integer.parseInt(sent.substring(2 * i, 2 * i + 2), 16);
+            if (mask != 0) {
+                x.spoil(0, 20 + i, mask);
+            }
         }
         int n = 484 * 30 + 1;
         Slots.forge(x, 0, 2, n >> 8, n & 255);

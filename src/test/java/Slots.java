@@ -7,7 +7,8 @@ final class Slots {
 
     static String hex(QuakeLink x, int slot) {
         StringBuilder text = new StringBuilder();
-        for (int i = 0; i < x.length(slot); i++) {
+        int length = x.length(slot);
+        for (int i = 0; i < length; i++) {
             text.append(String.format("%02x", x.air(slot, i)));
         }
         return text.toString();

@@ -17,6 +17,8 @@ public final class StationTest {
         turnAlternates();
         turnAnswersGone();
         turnLeastAsked();
+        turnAskedZero();
+        rowsUsedAgain();
         wrongWhat();
         Checks.end();
     }
@@ -63,7 +65,25 @@ public final class StationTest {
         Checks.due("2: taken", x.count(1, 0), 32768);
         Checks.due("2: open", x.count(1, 3), 768);
         Checks.due("5: flush of the last ones", x.flush(1), 768);
+        askedLast(x);
         Checks.due("2: another channel goes on", x.sample(2, 0), 0);
+    }
+
+    private static void askedLast(QuakeLink x) {
+        // Nothing may wait when the asked packet is to be sent; a gap of channel 0 lends its request.
+        for (int k = 0; k < 32; k++) {
+            x.turn();
+        }
+        x.deliver(Slots.sent(x, 0, 1));
+        Slots.sent(x, 0, 2);
+        x.deliver(Slots.sent(x, 0, 3));
+        int request = x.ask();
+        Slots.forge(x, request, 0, 1);
+        Slots.forgeFour(x, request, 4, 32000);
+        Slots.forgeFour(x, request, 8, 32767);
+        Checks.due("9: the last numbers", x.hear(request), 768);
+        Checks.due("6: number", x.air(x.turn(), 10), 32000 >> 8);
+        Checks.due("6: the last number is asked for no more", x.count(1, 4), 0);
     }
 
     /** Channel 1 with 32767 samples, all 0. */
@@ -422,6 +442,50 @@ public final class StationTest {
             Checks.due("6: least number, then least channel", x.air(x.turn(), 0), channel);
         }
         Checks.due("6: nothing", x.turn(), QuakeLink.NONE);
+    }
+
+    private static void turnAskedZero() {
+        QuakeLink x = withGapAsked(1);
+        int request = x.total(1) - 1;
+        x.turn();
+        Slots.forgeFour(x, request, 4, 0);
+        Slots.forgeFour(x, request, 8, 0);
+        Checks.due("9: number 0", x.hear(request), 1);
+        int slot = x.turn();
+        Checks.due("6: number 0 was asked for", slot, request + 2);
+        Checks.due("6: the packet that has it", x.air(slot, 11), 0);
+        Checks.due("6: asked for no more", x.count(1, 4), 0);
+    }
+
+    /** More packets than the ring has, and more slots than the air: nothing of the earlier ones may be left. */
+    private static void rowsUsedAgain() {
+        QuakeLink x = new QuakeLink();
+        int number = 0;
+        for (int k = 0; k < 70; k++) {
+            int n = 1 + k * 7 % 40;
+            x.samples(0, n, -1 - k, 1 << k % 31, k * 1000);
+            Checks.due("5: packet " + k, x.flush(0), n);
+            int slot = x.turn();
+            if (k != 50) {
+                Checks.due("8: packet " + k, x.deliver(slot), n);
+                Checks.due("16: packet " + k, x.at(0, number), -1 - k);
+            }
+            number += n;
+        }
+        Checks.due("18: the packet that was not heard", x.gaps(0), 1);
+        int from = x.gap(0, 0, false);
+        int to = x.gap(0, 0, true);
+        String request = Slots.checked(String.format("00000000%08x%08x", from, to));
+        int slot = x.ask();
+        Checks.due("7: bytes", Slots.hex(x, slot), request);
+        Slots.forgeFour(x, slot, 4, 0);
+        Slots.forgeFour(x, slot, 8, 0);
+        x.hear(slot);
+        String empty = Slots.checked(String.format("00000000%08x%024x", x.count(0, 1), 0));
+        Checks.due("6: empty", Slots.hex(x, x.turn()), empty);
+        for (int k = 0; k < 4; k++) {
+            Checks.due("7: bytes", Slots.hex(x, x.ask()), request);
+        }
     }
 
     private static void wrongWhat() {
