@@ -146,6 +146,7 @@ public final class ModelTest {
         compare("total(" + what + ")", () -> x.total(what), () -> model.total(what));
     }
 
+    /** These are more calls than an object is meant for; the program answers them all the same. */
     private void compareAll() {
         for (int c = 0; c < 4; c++) {
             int channel = c;

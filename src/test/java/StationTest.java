@@ -409,7 +409,8 @@ public final class StationTest {
         }
         Checks.due("20: OLDEST", x.count(2, 1), 2);
         int slot = x.turn();
-        Checks.due("6: empty", Slots.hex(x, slot), Slots.checked("0200" + "0000" + "00000002" + "000000000000000000000000"));
+        Checks.due("6: empty", Slots.hex(x, slot),
+                Slots.checked("0200" + "0000" + "00000002" + "000000000000000000000000"));
         Checks.due("6: below OLDEST asked for no more", x.count(2, 4), 6);
         Checks.due("8: an empty message", x.deliver(slot), 0);
         Checks.due("20: OLDEST as heard", x.count(2, 6), 2);
