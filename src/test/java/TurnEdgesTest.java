@@ -358,18 +358,21 @@ public final class TurnEdgesTest {
         Checks.due("6: nothing", x.turn(), QuakeLink.NONE);
     }
 
-    /** "(it may wait still)" */
+    /** "(it may wait still)": the first one that waits, and one behind it. */
     private static void itMayWaitStill() {
-        QuakeLink x = new QuakeLink();
-        int request = Slots.request(x);
-        close(x, 0, 2);
-        close(x, 0, 2);
-        Slots.asked(x, request, 0, 2, 2);
-        sends("6: asked for", x, 0, 2);
-        Checks.due("21: both wait", x.total(0), 2);
-        sends("6: waits", x, 0, 0);
-        sends("6: waits", x, 0, 2);
-        Checks.due("6: nothing", x.turn(), QuakeLink.NONE);
+        for (int number = 0; number <= 2; number += 2) {
+            QuakeLink x = new QuakeLink();
+            int request = Slots.request(x);
+            close(x, 0, 2);
+            close(x, 0, 2);
+            Slots.asked(x, request, 0, number, number);
+            sends("6: asked for", x, 0, number);
+            Checks.due("21: both wait", x.total(0), 2);
+            Checks.due("20: asked for no more", x.count(0, 4), 0);
+            sends("6: waits", x, 0, 0);
+            sends("6: waits", x, 0, 2);
+            Checks.due("6: nothing", x.turn(), QuakeLink.NONE);
+        }
     }
 
     private static void sentBecauseItWaitedAskedForStill() {
