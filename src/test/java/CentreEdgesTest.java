@@ -304,8 +304,8 @@ public final class CentreEdgesTest {
         String block = "0010" + "0".repeat(90) + "1001";
         rejects("two bits of 32 too few", Slots.head(17, 0, 0, 5, 5) + Slots.bits(block + "0".repeat(30)));
         accepts("all of the 32 bits", Slots.head(17, 0, 0, 5, 5) + Slots.bits(block + "0".repeat(32)), 17);
-        rejects("two bits of 64 too few", Slots.head(18, 0, 0, 5, 5) + Slots.bits(block + "0".repeat(62)));
-        accepts("all of the 64 bits", Slots.head(18, 0, 0, 5, 5) + Slots.bits(block + "0".repeat(64)), 18);
+        rejects("two bits of 96 too few", Slots.head(19, 0, 0, 5, 5) + Slots.bits(block + "0".repeat(94)));
+        accepts("all of the 96 bits", Slots.head(19, 0, 0, 5, 5) + Slots.bits(block + "0".repeat(96)), 19);
         for (int code = 2; code < 10; code++) {
             String whole = coded(code, WIDTHS[code]);
             accepts("all of code " + code, Slots.head(2, 0, 0, 5, 5) + whole, 2);
