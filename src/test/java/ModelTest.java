@@ -7,6 +7,11 @@ public final class ModelTest {
     // Some of these are several calls, so that a run has about the 512 that an object is meant for.
     private static final int CALLS = 280;
 
+    // Where parts of messages begin, and how many bytes they have; of a request, channel, from and to are among them.
+    private static final int[] PARTS = {0, 1, 2, 4, 8, 12, 16};
+    private static final int[] BYTES = {1, 1, 2, 4, 4, 4, 4};
+    private static final int[] EDGES = {0, 3, 100, 1000, 32767, 32768, 65535, Integer.MIN_VALUE, -1};
+
     private final Random random;
     private final String run;
     private final QuakeLink x = new QuakeLink();
@@ -62,8 +67,10 @@ public final class ModelTest {
     }
 
     private void call(int k) {
-        int dice = random.nextInt(100);
-        if (dice < 20) {
+        int dice = random.nextInt(106);
+        if (dice >= 100) {
+            forgeSome();
+        } else if (dice < 20) {
             takeSome();
         } else if (dice < 30) {
             int channel = channel();
@@ -123,6 +130,31 @@ public final class ModelTest {
         if (random.nextInt(6) > 0) {
             compare("mend(" + slot + ")", () -> none(() -> x.mend(slot)), () -> none(() -> model.mend(slot)));
         }
+    }
+
+    /** A part of a slot becomes a number near an edge, or near what it was; then both sides hear the slot. */
+    private void forgeSome() {
+        int slot = slot();
+        if (answer(() -> model.length(slot)).startsWith("throws")) {
+            return;
+        }
+        int part = random.nextInt(PARTS.length);
+        int end = Math.min(PARTS[part] + BYTES[part], model.length(slot) - 4);
+        int was = 0;
+        for (int i = PARTS[part]; i < end; i++) {
+            was = was << 8 | model.air(slot, i);
+        }
+        int base = random.nextBoolean() ? was : EDGES[random.nextInt(EDGES.length)];
+        int masks = was ^ base + random.nextInt(5) - 2;
+        for (int k = end - 1; k >= PARTS[part]; k--) {
+            int i = k;
+            int mask = masks >>> 8 * (end - 1 - k);
+            compare("spoil(" + slot + ", " + i + ", " + mask + ")", () -> none(() -> x.spoil(slot, i, mask)),
+                    () -> none(() -> model.spoil(slot, i, mask)));
+        }
+        compare("mend(" + slot + ")", () -> none(() -> x.mend(slot)), () -> none(() -> model.mend(slot)));
+        compare("deliver(" + slot + ")", () -> x.deliver(slot), () -> model.deliver(slot));
+        compare("hear(" + slot + ")", () -> x.hear(slot), () -> model.hear(slot));
     }
 
     private void look() {
